@@ -3,6 +3,7 @@ public final class DrawTest {
     public static void main(String[] args) {
         seeds();
         findings();
+        oneCarrier();
         oneTurn();
         manyTurns();
         Due.end();
@@ -27,6 +28,19 @@ public final class DrawTest {
         Due.is("33 no carriers", x.day(1), Due.STATE);
         Due.is("34 no carriers", x.ahead(12), Due.STATE);
         Due.is("33 z stays", x.count(6), 1);
+    }
+
+    private static void oneCarrier() {
+        CarryFair x = Due.fair("carrier;way 0 1 yards 3;errand 6 from 0 to 1");
+        x.seed(seedFor(1, 0, 1));
+        Due.is("34 one carrier", x.ahead(1), 1);
+        Due.is("33 one carrier", x.day(1), 1);
+        CarryFair y = Due.fair("carrier;carrier;way 0 1 yards 3;errand 6 from 0 to 1;errand 7 from 0 to 1");
+        y.take(1, 1);
+        y.seed(seedFor(2, 0, 1));
+        Due.is("34 what another one carries stays so", y.ahead(1), 1);
+        y.seed(seedFor(2, 1, 1));
+        Due.is("34 what it carries already", y.ahead(1), 2);
     }
 
     private static int afterDraws(int z, int draws) {

@@ -71,7 +71,8 @@ public final class FairTest {
             Due.is("4 beyond", x.change(0, pair[0], pair[1]), Due.BEYOND);
         }
         Due.is("4 earned", x.change(0, 3, 999999), 0);
-        Due.is("4 earned", x.change(0, 3, 7), 999999);
+        Due.is("4 earned", x.change(0, 3, 0), 999999);
+        Due.is("4 earned", x.change(0, 3, 7), 0);
         Due.is("3 earned", x.of(0, 3), 7);
         Due.is("4 strength", x.change(0, 2, 99), 20);
         Due.is("13 take", x.take(0, 0), 5);

@@ -14,6 +14,10 @@ public final class ImageTest {
     }
 
     private static void changeAll(CarryFair x) {
+        x.drop(1, 1);
+        x.change(0, 1, 2);
+        x.take(0, 1);
+        x.change(0, 1, 0);
         x.take(0, 0);
         x.walk(0, 1);
         x.buy(0, 0);
@@ -21,7 +25,10 @@ public final class ImageTest {
         x.change(1, 1, 4);
         x.change(1, 2, 7);
         x.carrier(3);
-        x.errand(9, 3, 4);
+        x.change(2, 3, 40);
+        x.walk(2, 1);
+        x.errand(9, 1, 4);
+        x.take(2, 2);
         x.ware(12);
         x.way(0, 1, 9, 1);
         x.way(5, 6, 1, 0);
@@ -45,7 +52,9 @@ public final class ImageTest {
             Due.is("47 far as it was", x.far(0, 0, 1), 4);
             Due.is("2 a new carrier", x.carrier(5), 2);
             Due.is("3 a new carrier's place", x.of(2, 1), 0);
+            Due.is("3 a new carrier's earnings", x.of(2, 3), 0);
             Due.is("3 a new carrier's yards", x.of(2, 4), 0);
+            Due.is("3 a new carrier carries nothing", x.of(2, 6), 0);
             Due.is("8 a new errand", x.errand(1, 0, 1), 2);
             Due.is("8 a new errand lies", x.errandOf(2, 3), 0);
         }

@@ -145,6 +145,9 @@ public final class RoundTest {
         Due.is("20 with what it has", x.cheapest(0, 5), 13);
         Due.is("20 with what it has", x.cheapest(0, 1), 5);
         Due.is("21 with what it has", x.which(0, 5), 3);
+        x.change(0, 3, 50);
+        Due.is("20 1 too little", x.cheapest(0, 1), 5);
+        Due.is("21 1 too little", x.which(0, 1), 1);
         x.change(0, 3, 51);
         Due.is("20 empty", x.cheapest(0, 1), 0);
         Due.is("21 empty", x.which(0, 1), 0);

@@ -186,6 +186,14 @@ public final class SheetTest {
         Due.same("45 judge", Due.stateOf(x), before);
         x.sheet(1, 16, 0);
         Due.is("45 none to walk to", x.judge(1, 0), 0);
+        x.sheet(1, 8, 1);
+        x.write(1, 0, 1);
+        Due.is("45 none behind the last", x.judge(1, 0), 16);
+        x.sheet(1, 32, 40);
+        Due.is("45 forty", x.judge(1, 0), 0);
+        x.write(1, 37, 1);
+        x.write(1, 38, 2);
+        Due.is("45 the last of forty", x.judge(1, 0), 16 + 60 + 15 + 20);
         x.take(0, 0);
         Due.is("45 what it carries comes with it", x.judge(0, 0), 16 + 60 + 15 + 20);
     }

@@ -65,6 +65,9 @@ public final class TextTest {
         Due.is("38 a byte in a number", Due.tell(x, "ware 3/4"), -7);
         Due.is("38 a byte in a word", Due.tell(x, "ol`d"), -1);
         Due.is("38 a byte behind a word", Due.tell(x, "old{"), -4);
+        Due.is("38 a z behind a word", Due.tell(x, "oldz"), -1);
+        Due.is("38 another first letter", Due.tell(x, "ald"), -1);
+        Due.is("38 another last letter", Due.tell(x, "ole"), -1);
     }
 
     private static void items() {

@@ -167,6 +167,8 @@ public final class WalkTest {
         x.buy(1, 1);
         Due.is("17 sold", x.now(2), 2);
         Due.is("17 earned", x.now(3), 4);
+        x.buy(1, 0);
+        Due.is("17 both sold", x.now(2), 3);
         Due.is("17 beyond", x.now(5), Due.BEYOND);
         Due.is("17 beyond", x.now(-1), Due.BEYOND);
     }
