@@ -1,9 +1,14 @@
 /**
- * Long runs of any calls with any arguments: nothing is thrown, each finding is counted once and changes nothing
- * but status(), and questions change nothing at all.
+ * Runs of any calls with any arguments: nothing is thrown, each finding is counted once and changes nothing
+ * but status(), and questions change nothing at all. Each call that is looked at is made on an object of its own,
+ * on which the calls ahead of it were made again: none is used for more than 512 calls.
  */
 public final class AnyCallTest {
     private static final int CALLS = 49;
+    private static final int TOLD = 49;
+    private static final int LONG = 26;
+    private static final int RUNS = 600;
+    private static final int LOOKS = 3;
     private static final String[] TEXTS = {"carrier at 1 strong 40", "old", "boated at 2", "handed strong 9",
         "way 0 1 yards 5;way 1 2 yards 3 river", "way 2 3 yards 1 river;way 3 4 yards 60", "way 4 5 yards 2;way 5 6 yards 0",
         "errand 5 from 0 to 1;errand 6 from 1 to 2", "errand 9 from 2 to 0", "ware 10;ware 300", "ware 0", "old;;", "at"};
@@ -11,6 +16,8 @@ public final class AnyCallTest {
         + "shared part strength kindFor bridge worth reach middle heavy ahead as judge count status ";
 
     private int z;
+    /** The calls of a run: which, and five arguments; or a text that is told, and which. */
+    private final int[][] calls = new int[LONG][6];
     private int a;
     private int b;
     private int c;
@@ -23,8 +30,8 @@ public final class AnyCallTest {
     }
 
     public static void main(String[] args) {
-        for (int seed = 1; seed <= 60; seed++) {
-            new AnyCallTest(seed * 104729).run();
+        for (int seed = 1; seed <= RUNS; seed++) {
+            new AnyCallTest(seed * 104729).run(seed % 2 == 0);
         }
         Due.end();
     }
@@ -48,30 +55,49 @@ public final class AnyCallTest {
         }
     }
 
-    private void run() {
-        CarryFair x = Due.fair("carrier;watery;way 0 1 yards 4;errand 3 from 0 to 1;ware 20");
-        for (int i = 0; i < 400; i++) {
-            if (any(12) == 0) {
-                Due.tell(x, TEXTS[any(TEXTS.length)]);
+    private void choose() {
+        for (int[] call : calls) {
+            call[0] = any(12) == 0 ? TOLD : any(CALLS);
+            call[1] = argument();
+            for (int i = 2; i < 6; i++) {
+                call[i] = argument();
             }
-            int call = any(CALLS);
-            a = argument();
-            b = argument();
-            c = argument();
-            d = argument();
-            e = argument();
-            compare(x, call);
+            if (call[0] == TOLD) {
+                call[1] = any(TEXTS.length);
+            }
         }
     }
 
-    private void compare(CarryFair x, int call) {
+    private int make(CarryFair x, int[] call) {
+        a = call[1];
+        b = call[2];
+        c = call[3];
+        d = call[4];
+        e = call[5];
+        return call[0] == TOLD ? Due.tell(x, TEXTS[a]) : answer(x, call[0]);
+    }
+
+    private void run(boolean isRich) {
+        choose();
+        for (int at = any(LOOKS); at < LONG; at += LOOKS) {
+            if (calls[at][0] != TOLD) {
+                CarryFair x = isRich ? Edge.rich() : Due.fair("carrier;watery;way 0 1 yards 4;errand 3 from 0 to 1;ware 20");
+                for (int i = 0; i < at; i++) {
+                    make(x, calls[i]);
+                }
+                compare(x, calls[at]);
+            }
+        }
+    }
+
+    private void compare(CarryFair x, int[] call) {
         String before = Due.stateOf(x);
         int all = x.status(-1);
         int[] each = new int[7];
         for (int w = 0; w < 7; w++) {
             each[w] = x.status(w);
         }
-        int answer = answer(x, call);
+        int answer = make(x, call);
         boolean tellsZ = name.equals("seed") || name.equals("count") && a == 6;
         boolean isFinding = !tellsZ && answer < -1000000;
         String told = name + "(" + a + ", " + b + ", " + c + ", " + d + ", " + e + ")";

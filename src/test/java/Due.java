@@ -22,9 +22,15 @@ final class Due {
         }
     }
 
+    /** By as few calls as can be. */
     static void feed(CarryFair x, String text) {
-        for (int i = 0; i < text.length(); i++) {
-            x.feed(text.charAt(i), 1);
+        for (int i = 0; i < text.length(); i += 4) {
+            int n = Math.min(4, text.length() - i);
+            int bytes = 0;
+            for (int k = 0; k < n; k++) {
+                bytes = bytes << 8 | text.charAt(i + k);
+            }
+            x.feed(bytes, n);
         }
     }
 
@@ -36,10 +42,7 @@ final class Due {
     static CarryFair fair(String... texts) {
         CarryFair x = new CarryFair();
         for (String text : texts) {
-            int items = tell(x, text);
-            if (items < 0) {
-                is("text " + text, items, text.split(";").length);
-            }
+            is("38 told: " + text, tell(x, text), text.split(";").length);
         }
         return x;
     }
@@ -63,8 +66,10 @@ final class Due {
         for (int w = 0; w < x.count(2); w++) {
             all.append(x.wareOf(w, 0)).append(' ').append(x.wareOf(w, 1)).append(' ');
         }
-        for (int pair = 0; pair < 49; pair++) {
-            all.append(x.wayOf(pair / 7, pair % 7, 0)).append(' ').append(x.wayOf(pair / 7, pair % 7, 1)).append(' ');
+        for (int one = 0; one < 7; one++) {
+            for (int other = one + 1; other < 7; other++) {
+                all.append(x.wayOf(one, other, 0)).append(' ').append(x.wayOf(other, one, 1)).append(' ');
+            }
         }
         for (int spot = 0; spot < 10; spot++) {
             all.append(x.as(spot, 0)).append(' ');

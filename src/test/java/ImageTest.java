@@ -45,7 +45,7 @@ public final class ImageTest {
         String before = Due.stateOf(x);
         Due.is("47 none", x.undo(), Due.NONE);
         Due.is("46 image", x.image(), 1);
-        for (int i = 0; i < 3; i++) {
+        for (int i = 0; i < 2; i++) {
             changeAll(x);
             Due.is("47 undo", x.undo(), 2);
             Due.same("47 undo", Due.stateOf(x), before);

@@ -113,12 +113,12 @@ public final class TextTest {
             {"errand 5 from 0 to 1 river", 21}, {"errand 5 to 1 from 0", 9},
             {"ware 0", 5}, {"ware 10000", 5}, {"ware old", 5}, {"ware ;", 5}, {"ware 3 3", 7}, {"ware 3 river", 7},
         };
-        CarryFair x = new CarryFair();
         for (Object[] fault : faults) {
+            CarryFair x = new CarryFair();
             Due.is("38 " + fault[0], Due.tell(x, (String) fault[0]), -1 - (Integer) fault[1]);
             Due.is("38 tape", x.count(5), 0);
+            Due.is("38 nothing came", x.count(0) + x.count(1) + x.count(2), 0);
         }
-        Due.is("38 nothing came", x.count(0) + x.count(1) + x.count(2), 0);
     }
 
     private static void ends() {
